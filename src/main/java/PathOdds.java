@@ -174,7 +174,6 @@ public final class PathOdds {
         }
     }
 
-    // All six states, not only those in use: a later call of states may bring the others back.
     private void clearWeights() {
         for (int i = 0; i < MOST_STATES; i++) {
             startWeights[i] = 0.0;

@@ -107,7 +107,7 @@ public final class AgainstPlainTest {
         } else if (which < 11) {
             Due.same(call + "unread", x.unread(), plain.unread());
         } else {
-            int n = random.nextInt(20) == 0 ? 1 + random.nextInt(6) : far(7);
+            int n = random.nextInt(20) == 0 ? 1 + random.nextInt(6) : random.nextBoolean() ? 0 : far(7);
             Due.same(call + "states", x.states(n), plain.states(n));
         }
     }

@@ -535,9 +535,15 @@ public final class PromisesTest {
         y.read(0);
         y.read(0);
         y.read(1);
-        Due.number("backward multiplies from the left", y.backward(0, 0), (0.1 * 0.7) * (0.1 * 0.3));
         y.start(0, 0.9);
         Due.number("best multiplies from the left", y.best(), (((0.9 * 0.7) * 0.1) * 0.7) * 0.1 * 0.3);
+        y.move(0, 0, 0.7);
+        Due.number("backward multiplies from the left", y.backward(0, 0), (0.7 * 0.7) * (0.7 * 0.3));
+        PathOdds z = even(3, 1.0, 2);
+        for (int j = 0; j < 3; j++) {
+            z.move(0, j, w[j]);
+        }
+        Due.number("backward adds the lowest first", z.backward(0, 0), ((0.0 + 0.1) + 0.2) + 0.3);
     }
 
     private static void refusedCallsChangeNothing() {
