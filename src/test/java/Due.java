@@ -6,6 +6,7 @@ final class Due {
 
     private static int wrong = 0;
     private static int asked = 0;
+    private static int sentences = 0;
 
     private Due() {
     }
@@ -15,12 +16,31 @@ final class Due {
         double answer();
     }
 
+    /** Runs the test of one sentence, which must stand in the document under that heading. */
+    static void sentence(String heading, String words, Runnable test) {
+        sentences++;
+        yes("the document says under \"" + heading + "\": " + words, Document.says(heading, words));
+        int before = wrong;
+        try {
+            test.run();
+        } catch (RuntimeException e) {
+            fault("the test", e, "no exception");
+        }
+        if (wrong != before) {
+            System.out.println("BROKEN: " + heading + ": " + words);
+        }
+    }
+
     static void same(String call, Object got, Object want) {
         asked++;
         if (!got.equals(want)) {
-            wrong++;
-            System.out.println(call + " answered " + got + ", due is " + want);
+            fault(call, got, want);
         }
+    }
+
+    private static void fault(String call, Object got, Object want) {
+        wrong++;
+        System.out.println(call + " answered " + got + ", due is " + want);
     }
 
     static void yes(String call, boolean got) {
@@ -35,16 +55,19 @@ final class Due {
     static void number(String call, double got, double want) {
         asked++;
         if (!(got == want)) {
-            wrong++;
-            System.out.println(call + " answered " + got + ", due is " + want);
+            fault(call, got, want);
         }
+    }
+
+    /** For answers whose arithmetic the document tells to the last sign: 0.0 and -0.0 differ. */
+    static void exact(String call, double got, double want) {
+        same(call, got, want);
     }
 
     /** The answer as text, or the exact class of what was thrown, so that what the machine throws differs. */
     static String told(Call call) {
         try {
-            double got = call.answer();
-            return Double.toString(got == 0.0 ? 0.0 : got);
+            return Double.toString(call.answer());
         } catch (RuntimeException e) {
             String name = e.getClass().getName();
             return "throws." + (name.startsWith("java.lang.") ? name.substring(10) : name);
@@ -52,7 +75,7 @@ final class Due {
     }
 
     static void tells(String call, Call got, double want) {
-        same(call, told(got), Double.toString(want == 0.0 ? 0.0 : want));
+        same(call, told(got), Double.toString(want));
     }
 
     static void refuses(String call, Call got, String want) {
@@ -60,6 +83,9 @@ final class Due {
     }
 
     static void end() {
+        if (sentences != 0) {
+            System.out.print(sentences + " sentences, ");
+        }
         System.out.println(asked + " answers asked, " + wrong + " not as due");
         if (wrong != 0) {
             System.exit(1);
