@@ -193,6 +193,11 @@ public final class PromisesTest {
         Due.same("size() after other calls", x.size(), 6);
         x.states(1);
         Due.same("size() of one", x.size(), 1);
+        for (int n = 1; n <= 6; n++) {
+            for (int length = 0; length <= 12; length++) {
+                Due.same("size() with " + length + " symbols", Models.even(n, 0.5, length).size(), n);
+            }
+        }
     }
 
     private static void startSets() {

@@ -125,6 +125,7 @@ public final class TermsTest {
             Due.number("M(0, 0) of " + w, x.backward(0, 0), w);
         }
         x.start(0, 1.0);
+        Due.exact("best() of a move of -0.0, which is no sum", x.best(), -0.0);
         for (double w : Models.WEIGHTS) {
             Due.yes("show of " + w, x.show(0, 0, w));
             Due.exact("E(0, 0) of " + w, x.forward(0, 0), w);
@@ -472,6 +473,9 @@ public final class TermsTest {
         y.show(5, 1, 0.25);
         y.read(1);
         Due.same("bestState(3) of one greatest", y.bestState(3), 4);
+        PathOdds z = Models.even(2, 0.0, 1);
+        z.start(0, -0.0);
+        Due.same("bestState(0) of -0.0 and 0.0, which are equal", z.bestState(0), 0);
     }
 
     private static void eachStateBefore() {
