@@ -152,6 +152,9 @@ public final class PromisesTest {
         for (int k = 0; k < move.size(); k++) {
             Due.exact("M(" + k + ", " + i + ")", move.backward(0, k), 0.0);
         }
+        // best() is no sum, so it alone would tell moves of -0.0 from moves of 0.
+        move.start(i, 1.0);
+        Due.exact("best() where nothing goes on", move.best(), 0.0);
     }
 
     private static void statesEmptiesTheRow() {

@@ -661,7 +661,7 @@ public final class TermsTest {
         Act[] changes = {
             x -> x.start(1, 0.05), x -> x.start(0, 0.0), x -> x.move(1, 0, 0.05), x -> x.move(0, 0, 0.0),
             x -> x.show(1, 2, 0.95), x -> x.show(0, 1, 0.0), x -> x.read(1), x -> x.unread(),
-            TermsTest::anotherLastSymbol, TermsTest::newStates};
+            TermsTest::anotherLastSymbol, TermsTest::moreStates, TermsTest::fewerStates};
         for (int q = 0; q < questions.length; q++) {
             for (int c = 0; c < changes.length; c++) {
                 PathOdds asked = mixed(5);
@@ -682,7 +682,7 @@ public final class TermsTest {
         x.read(3);
     }
 
-    private static void newStates(PathOdds x) {
+    private static void moreStates(PathOdds x) {
         x.states(3);
         for (int i = 0; i < 3; i++) {
             x.start(i, 0.5);
@@ -690,5 +690,14 @@ public final class TermsTest {
             x.move(i, 2 - i, 0.5);
         }
         Models.read(x, 1, 1, 1);
+    }
+
+    /** As long a row as before, so that what was worked out for a state that is gone would still be there. */
+    private static void fewerStates(PathOdds x) {
+        x.states(1);
+        x.start(0, 0.25);
+        x.show(0, 1, 0.25);
+        x.move(0, 0, 0.25);
+        Models.read(x, 1, 1, 1, 1, 1);
     }
 }
